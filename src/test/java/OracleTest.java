@@ -26,7 +26,7 @@ public final class OracleTest {
     private void runCalls() {
         while (calls < CALLS) {
             if (calls == 0 || below(60) == 0) {
-                tell(below(5) == 0 ? spoilt(text()) : text());
+                tell(below(5) == 0 ? spoilt(text()) : below(5) == 0 ? widest() : text());
             }
             oneCall(below(30));
         }
@@ -72,6 +72,18 @@ public final class OracleTest {
                 text.append(' ').append(below(4)).append(' ').append(below(cells));
             }
             text.append(blanks()).append(';');
+        }
+        return text.toString();
+    }
+
+    private String widest() {
+        StringBuilder text = new StringBuilder("c1;c2 1;c1 1;c2;c1 2;c4;");
+        for (int m = 0; m < 6; m++) {
+            text.append('m').append(below(6));
+            for (int k = 0; k < 3; k++) {
+                text.append(' ').append(below(4)).append(' ').append(below(6));
+            }
+            text.append(';');
         }
         return text.toString();
     }
