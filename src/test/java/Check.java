@@ -44,6 +44,21 @@ final class Check {
         return x;
     }
 
+    /** What modes() answers to a text on a new object. */
+    static int answerTo(String text) {
+        ModeCells x = new ModeCells();
+        type(x, text);
+        return x.modes();
+    }
+
+    static String padded(String text, int length) {
+        StringBuilder padded = new StringBuilder(text);
+        while (padded.length() < length) {
+            padded.append(' ');
+        }
+        return padded.toString();
+    }
+
     static void play(ModeCells x, int... notes) {
         for (int note : notes) {
             x.plays(note);

