@@ -15,6 +15,7 @@ public final class ParseEdgesTest {
         samePartCostsNothing();
         partAndScaleChangeAtOnce();
         scaleChangesInTheSharedCell();
+        lastPartOfTheLastScale();
         notSharedIsNoWay();
         sameStepsAreNotShared();
         sharedByTwoPartsOfIt();
@@ -26,6 +27,7 @@ public final class ParseEdgesTest {
         secondNoteThen();
         noParse();
         parseComesAndGoes();
+        twoDeedsBetween();
         reachEdges();
         reachAcross();
         fitEdges();
@@ -168,6 +170,8 @@ public final class ParseEdgesTest {
         parses("0 2 4", x, 1, 2, 0, 0, 2, 0, 2, 1);
         ModeCells y = played(PAIRS, 2, 26, 24, 22);
         parses("26 24 22", y, 1, 2, 23, 1, 21, 1, 21, 0);
+        ModeCells z = played(PAIRS, 2, 4, 2, 0);
+        parses("4 2 0, to scale 0", z, 1, 2, 2, 1, 0, 1, 0, 0);
     }
 
     /** "COST 10, if it is another SCALE": the PART's number may be another one at no COST. */
@@ -176,6 +180,20 @@ public final class ParseEdgesTest {
         parses("0 2 3 5", x, 1, 2, 0, 0, 0, 1, 2, 0, 2, 1);
         ModeCells y = played(PAIRS, 2, 0, 2, 3, 2, 5);
         parses("0 2 3 2 5", y, 1, 2, 0, 0, 0, 1, 0, 1, 2, 0, 2, 1);
+    }
+
+    /** The highest SCALE and PART that there can be, as the first NOTE's and as a later one's. */
+    private static void lastPartOfTheLastScale() {
+        ModeCells x = Check.told("c1;c2;m1;m1;m1;m1;m1;m0 3 0 3 0 3 0;", 8);
+        // The last scale has 23 24, 27 28, 31 32 and 35 36.
+        x.plays(36);
+        parses("36", x, 0, 0, 143, 3);
+        x.plays(27);
+        parses("36 27", x, 0, 1, 143, 3, 143, 1);
+        x.plays(36);
+        parses("36 27 36", x, 0, 2, 143, 3, 143, 1, 143, 3);
+        x.plays(37);
+        hasNone("37 is beyond", x, 3);
     }
 
     /** A SCALE that SHARES a PART which the NOTE is not in can't be changed to at that NOTE. */
@@ -308,6 +326,48 @@ public final class ParseEdgesTest {
         x.modes();
         Check.play(x, 4, 5);
         parses("anew", x, 0, 0, 4, 0, 4, 0);
+    }
+
+    /** Whichever two deeds come between two PARSES, the second one is of what THE TUNE is then. */
+    private static void twoDeedsBetween() {
+        for (int first = 0; first < 6; first++) {
+            for (int second = 0; second < 6; second++) {
+                ModeCells x = played("c4;m0;", 2, 5, 9);
+                x.keep(0);
+                x.moves(1);
+                parses("ahead", x, 0, 0, 6, 0, 6, 0);
+                deed(x, first);
+                deed(x, second);
+                isParsedAsNew(first + " and " + second, x);
+            }
+        }
+    }
+
+    private static void deed(ModeCells x, int which) {
+        switch (which) {
+            case 0 -> x.plays(6);
+            case 1 -> x.cuts();
+            case 2 -> x.mends(0, 10);
+            case 3 -> x.moves(-2);
+            case 4 -> x.undo();
+            default -> x.back(0);
+        }
+    }
+
+    /** The same NOTES on a new object have the same PARSE. */
+    private static void isParsedAsNew(String where, ModeCells x) {
+        ModeCells y = Check.told("c4;m0;", 2);
+        for (int k = 0; k < x.count(2); k++) {
+            y.plays(x.note(k));
+        }
+        for (int what = 0; what <= 2; what++) {
+            due(where + ": parse " + what, x.parse(what), y.parse(what));
+        }
+        due(where + ": reach", x.reach(), y.reach());
+        for (int k = 0; k < x.count(2); k++) {
+            due(where + ": scale of " + k, x.parsed(k, 0), y.parsed(k, 0));
+            due(where + ": part of " + k, x.parsed(k, 1), y.parsed(k, 1));
+        }
     }
 
     /** "from the first one on"; "as many as can be". */

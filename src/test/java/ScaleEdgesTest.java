@@ -22,6 +22,7 @@ public final class ScaleEdgesTest {
         wayAsked();
         lowestSecond();
         lowestThird();
+        nextMustShare();
         farthestAlone();
         farthestAtBothEnds();
         lowestOfTheFarthest();
@@ -242,6 +243,17 @@ public final class ScaleEdgesTest {
         due("by the one that leads on", y.way(0, 72 + 1, -1), 3);
         due("by the one that leads on", y.way(0, 72 + 1, 1), 48);
         due("by the one that leads on", y.way(0, 72 + 1, 2), 73);
+    }
+
+    /** "each of which SHARES a PART with the next": as near to the end is not enough. */
+    private static void nextMustShare() {
+        ModeCells x = Check.told("c1;c1;c1;m0 0 2;m1;m1 0 2;m2;", 7);
+        // 5 and 53 are both next to 78 by cell 2 at 6; 29 is cell 1 at 5 alone, which 53 has, and 5 has not.
+        due("5 is next to the end", x.way(5, 78, -1), 2);
+        due("53 is next to the end", x.way(53, 78, -1), 2);
+        due("how many", x.way(29, 78, -1), 3);
+        due("by the one that shares", x.way(29, 78, 1), 53);
+        due("5 is farther", x.way(29, 5, -1), 3);
     }
 
     /** None but itself: one SCALE, and that. */

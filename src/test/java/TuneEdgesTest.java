@@ -35,6 +35,7 @@ public final class TuneEdgesTest {
         imageStays();
         nothingUndoneBehindBack();
         backLeavesTheRest();
+        lastCallOfAll();
         Check.report();
     }
 
@@ -483,5 +484,21 @@ public final class TuneEdgesTest {
         due("parse of the image", x.parsed(0, 1), 1);
         due("the text is read", x.modes(), 1);
         due("as it came", x.cell(0, 0), 3);
+    }
+
+    /** "at most 512 calls": the last of them is answered as the first ones are. */
+    private static void lastCallOfAll() {
+        ModeCells x = Check.told("c1;m0 1 0;", 2);
+        int calls = "c1;m0 1 0;".length() + 1;
+        while (calls + 4 < 512) {
+            due("call " + calls + ": plays", x.plays(3), 1);
+            due("call " + calls + ": parse", x.parse(0), 0);
+            due("call " + calls + ": undo", x.undo(), 0);
+            calls += 3;
+        }
+        for (; calls < 511; calls++) {
+            due("call " + calls + ": moves", x.moves(1), STATE);
+        }
+        due("call 512: plays", x.plays(60), 1);
     }
 }
